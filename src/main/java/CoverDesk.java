@@ -1,3 +1,7 @@
+/**
+ * Tells what small programs of blocks did: counts of edges, blocks and paths, and which edges need probes.
+ * Every edge is counted itself, since probes alone would not tell the others of a run that is cut off.
+ */
 public final class CoverDesk {
     public static final int OK = 0, CUT = 1, NONE = -1, MANY = -2;
 

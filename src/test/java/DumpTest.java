@@ -13,6 +13,7 @@ public final class DumpTest {
         refusedBuildAndWeightDoNot();
         clearAndBlocksDoNot();
         mergeUpToTheLimit();
+        limitCountsRunsThatAreCut();
         mergeIsNoRun();
         Due.finish();
     }
@@ -189,6 +190,23 @@ public final class DumpTest {
         Due.due("merge of all", desk.merge(0), true);
         Due.due("merge of none to all", desk.merge(1), true);
         Due.due("runs", desk.count(3), 1000000);
+    }
+
+    private static void limitCountsRunsThatAreCut() {
+        CoverDesk desk = Desks.counting();
+        Millions.fill(desk, 500000, 0, 1000);
+        desk.dump(0);
+        desk.run(0, 1000);
+        Due.due("merge to 500001 runs, all cut", desk.merge(0), true);
+        Due.due("merge to 1000001 runs, all cut", desk.merge(0), false);
+        desk.dump(1);
+        desk.merge(0);
+        desk.merge(0);
+        Due.due("run 1000001, all cut", desk.run(0, 1000), CoverDesk.NONE);
+        Due.due("counts", Desks.counts(desk), "99000000 0 0 1000000");
+        Due.due("done(0)", desk.done(0), 100000000);
+        Due.due("path(0)", desk.path(0), 99000000);
+        Due.due("covered(7)", desk.covered(7), 1000000);
     }
 
     private static void mergeIsNoRun() {

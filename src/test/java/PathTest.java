@@ -6,6 +6,7 @@ public final class PathTest {
         pathsAreOrderedByBegin();
         twoExitsToOneBlockAreTwoPaths();
         longestPath();
+        pathsOfTheGreatestProgram();
         whatIsCutOffIsNone();
         pathsAreRefused();
         threeHundredAreNotMany();
@@ -75,6 +76,26 @@ public final class PathTest {
         paths(desk, "0 1 2 3 4 5 6 7 8 9 10 11");
         Due.due("run", desk.run(0, 0), CoverDesk.CUT);
         Due.due("path(0)", desk.path(0), 8);
+    }
+
+    private static void pathsOfTheGreatestProgram() {
+        // 12 SWITCHes, each to the next one or, by two exits, to itself; the last one to itself by all three.
+        CoverDesk desk = new CoverDesk();
+        for (int i = 0; i < 12; i++) {
+            desk.block(0, 0);
+            desk.exits(i, 5, Math.min(i + 1, 11), i, i);
+        }
+        Due.due("build()", desk.build(), 37);
+        Due.due("covered(4)", desk.covered(4), 168);
+        Due.due("edges of path 0", Desks.pathEdges(desk, 0), "0 3 6 9 12 15 18 21 24 27 30 33");
+        Due.due("edges of path 24, the last one from block 0", Desks.pathEdges(desk, 24), "2");
+        Due.due("edges of path 25, the first one from block 1", Desks.pathEdges(desk, 25), "3 6 9 12 15 18 21 24 27 30 33");
+        Due.due("edges of path 167", Desks.pathEdges(desk, 167), "35");
+        desk.run(0, 0);
+        Due.due("path(0)", desk.path(0), 1);
+        Due.due("path(165)", desk.path(165), 87);
+        desk.run(2, 0);
+        Due.due("path(24)", desk.path(24), 99);
     }
 
     private static void whatIsCutOffIsNone() {
