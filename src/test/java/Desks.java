@@ -4,7 +4,7 @@ final class Desks {
     }
 
     /** Appends a block for each row: op, a, kind and the targets that the kind uses. */
-    static void write(CoverDesk desk, int[]... rows) {
+    static void write(Desk desk, int[]... rows) {
         for (int[] row : rows) {
             int block = desk.block(row[0], row[1]);
             Due.due("exits of block " + block, desk.exits(block, row[2], target(row, 3), target(row, 4), target(row, 5)), true);
@@ -15,67 +15,84 @@ final class Desks {
         return at < row.length ? row[at] : 99;
     }
 
-    static CoverDesk built(int[]... rows) {
-        CoverDesk desk = new CoverDesk();
+    static Desk built(int[]... rows) {
+        Desk desk = new Desk();
         write(desk, rows);
         Due.due("build()", desk.build() != CoverDesk.NONE, true);
         return desk;
     }
 
+    /** A desk with a number of blocks that do nothing and END; nothing is built. */
+    static Desk withBlocks(int blocks) {
+        Desk desk = new Desk();
+        for (int i = 0; i < blocks; i++) {
+            Due.due("block " + i, desk.block(0, 0), i);
+        }
+        return desk;
+    }
+
     /** X counts up to Y, in block 0, which goes back to itself (edge 0) or on (1) to the end in block 1 (2, OUT is 3). */
-    static CoverDesk counting() {
+    static Desk counting() {
         return built(new int[] {1, 1, 2, 0, 1}, new int[] {0, 0, 0});
     }
 
-    /** Every answer about what is built; for small programs, since an object is used for 512 calls only. */
-    static String shown(CoverDesk desk) {
-        StringBuilder all = new StringBuilder();
-        all.append("last ").append(desk.last(0)).append(' ').append(desk.last(1)).append(' ').append(desk.last(2));
+    /** 12 SWITCHes, each to the next one or, by two exits, to itself; the last one to itself by all three. */
+    static Desk greatest() {
+        Desk desk = withBlocks(12);
+        for (int i = 0; i < 12; i++) {
+            Due.due("exits of block " + i, desk.exits(i, 5, Math.min(i + 1, 11), i, i), true);
+        }
+        Due.due("build()", desk.build(), 37);
+        return desk;
+    }
+
+    /** Every answer about what is built. */
+    static String shown(Desk desk) {
+        StringBuilder all = new StringBuilder("last");
+        for (int which = 0; which < 3; which++) {
+            all.append(' ').append(desk.last(which));
+        }
         all.append("; covered");
         for (int what = 0; what < 8; what++) {
             all.append(' ').append(desk.covered(what));
         }
-        for (int edge = 0; desk.count(edge) != CoverDesk.NONE; edge++) {
+        int count = desk.count(0);
+        for (int edge = 0; count != CoverDesk.NONE; edge++) {
             all.append("; edge ").append(edge).append(':');
             for (int what = 0; what < 6; what++) {
                 all.append(' ').append(desk.edge(edge, what));
             }
-            all.append(" count ").append(desk.count(edge));
+            all.append(" count ").append(count);
+            count = desk.count(edge + 1);
         }
-        all.append("; done");
-        for (int block = 0; desk.done(block) != CoverDesk.NONE; block++) {
-            all.append(' ').append(desk.done(block));
-        }
+        all.append("; done ").append(dones(desk));
+        all.append("; probes ").append(probes(desk));
         all.append("; paths ").append(pathCounts(desk));
         return all.toString();
     }
 
-    static String counts(CoverDesk desk) {
-        StringBuilder all = new StringBuilder();
-        for (int edge = 0; desk.count(edge) != CoverDesk.NONE; edge++) {
-            all.append(edge == 0 ? "" : " ").append(desk.count(edge));
-        }
-        return all.toString();
+    static String counts(Desk desk) {
+        return row(desk::count);
     }
 
-    static String pathCounts(CoverDesk desk) {
-        StringBuilder all = new StringBuilder();
-        for (int k = 0; desk.path(k) != CoverDesk.NONE; k++) {
-            all.append(k == 0 ? "" : " ").append(desk.path(k));
-        }
-        return all.toString();
+    static String dones(Desk desk) {
+        return row(desk::done);
     }
 
-    static String pathEdges(CoverDesk desk, int k) {
-        StringBuilder all = new StringBuilder();
-        for (int i = 0; desk.pathEdge(k, i) != CoverDesk.NONE; i++) {
-            all.append(i == 0 ? "" : " ").append(desk.pathEdge(k, i));
-        }
-        return all.toString();
+    static String pathCounts(Desk desk) {
+        return row(desk::path);
+    }
+
+    static String pathEdges(Desk desk, int k) {
+        return row(i -> desk.pathEdge(k, i));
+    }
+
+    static String probes(Desk desk) {
+        return row(desk::probe);
     }
 
     /** What edge(.., what) answers for all edges, in a row. */
-    static String edges(CoverDesk desk, int what) {
+    static String edges(Desk desk, int what) {
         StringBuilder all = new StringBuilder();
         for (int edge = 0; desk.count(edge) != CoverDesk.NONE; edge++) {
             all.append(edge == 0 ? "" : " ").append(desk.edge(edge, what));
@@ -83,10 +100,17 @@ final class Desks {
         return all.toString();
     }
 
-    static String probes(CoverDesk desk) {
+    private interface Answer {
+        int to(int number);
+    }
+
+    /** The answers from number 0 on up to the first NONE. */
+    private static String row(Answer answer) {
         StringBuilder all = new StringBuilder();
-        for (int k = 0; desk.probe(k) != CoverDesk.NONE; k++) {
-            all.append(k == 0 ? "" : " ").append(desk.probe(k));
+        int each = answer.to(0);
+        for (int number = 0; each != CoverDesk.NONE; number++) {
+            all.append(number == 0 ? "" : " ").append(each);
+            each = answer.to(number + 1);
         }
         return all.toString();
     }

@@ -1,25 +1,33 @@
 /** Promises 16 and 17: dump and merge. */
 public final class DumpTest {
+    private static final int MIN = Integer.MIN_VALUE;
+    private static final int MAX = Integer.MAX_VALUE;
+
     public static void main(String[] args) {
         dumpTakesTheCounts();
-        dumpIsRefused();
-        refusedDumpChangesNothing();
+        dumpsAre0And1();
+        dumpNeedsAProgram();
         dumpLosesWhatWasInIt();
         dumpsAreTwo();
+        dumpsOfTheGreatestProgram();
         mergeAdds();
-        mergeIsRefused();
+        mergesAre0And1();
         emptyIsNotAllZero();
+        dumpThatLostItsCounts();
         buildAndWeightEmptyDumps();
         refusedBuildAndWeightDoNot();
-        clearAndBlocksDoNot();
-        mergeUpToTheLimit();
+        otherCallsDoNot();
+        mergeOfAMillionRuns();
+        mergeUpToAMillionRuns();
+        mergeOfNoRunsToAMillion();
         limitCountsRunsThatAreCut();
         mergeIsNoRun();
         Due.finish();
     }
 
+    // Promise 16: "The counts, of edges, blocks, paths and runs cut off, are kept in a dump .., and are all 0 then"
     private static void dumpTakesTheCounts() {
-        CoverDesk desk = Desks.counting();
+        Desk desk = Desks.counting();
         String fresh = Desks.counts(desk);
         desk.run(0, 3);
         desk.run(0, 300);
@@ -36,32 +44,33 @@ public final class DumpTest {
         Due.due("cut after merge", desk.covered(7), 1);
     }
 
-    private static void dumpIsRefused() {
-        CoverDesk desk = new CoverDesk();
+    // Promise 16: "a dump (0 or 1)", "False .. if there is no such dump"
+    private static void dumpsAre0And1() {
+        Desk desk = Desks.counting();
+        Due.due("dump(0)", desk.dump(0), true);
+        Due.due("dump(1)", desk.dump(1), true);
+        for (int d : new int[] {-1, 2, MIN, MAX}) {
+            Due.due("dump(" + d + ")", desk.dump(d), false);
+        }
+    }
+
+    // Promise 16: "or nothing is built"
+    private static void dumpNeedsAProgram() {
+        Desk desk = new Desk();
         Due.due("dump(0) of nothing", desk.dump(0), false);
         desk.block(0, 0);
         Due.due("dump(1) of what is not built", desk.dump(1), false);
         desk.build();
         Due.due("merge(0) after a refused dump", desk.merge(0), false);
-        int[] wrong = {-1, 2, Integer.MIN_VALUE, Integer.MAX_VALUE};
-        for (int d : wrong) {
-            Due.due("dump(" + d + ")", desk.dump(d), false);
-        }
+        Due.due("merge(1) after a refused dump", desk.merge(1), false);
+        Due.due("dump(0) of what is built", desk.dump(0), true);
+        desk.clear();
+        Due.due("dump(1) of what is built, without blocks", desk.dump(1), true);
     }
 
-    private static void refusedDumpChangesNothing() {
-        CoverDesk desk = Desks.counting();
-        desk.run(0, 3);
-        String before = Desks.shown(desk);
-        desk.dump(-1);
-        desk.dump(2);
-        Due.due("what is built, after refused dumps", Desks.shown(desk), before);
-        Due.due("merge(0)", desk.merge(0), false);
-        Due.due("merge(1)", desk.merge(1), false);
-    }
-
+    // Promise 16: "what was in it is lost"
     private static void dumpLosesWhatWasInIt() {
-        CoverDesk desk = Desks.counting();
+        Desk desk = Desks.counting();
         desk.run(0, 300);
         desk.dump(1);
         desk.run(0, 3);
@@ -72,7 +81,7 @@ public final class DumpTest {
     }
 
     private static void dumpsAreTwo() {
-        CoverDesk desk = Desks.counting();
+        Desk desk = Desks.counting();
         desk.run(0, 3);
         desk.dump(0);
         Due.due("merge(1), empty", desk.merge(1), false);
@@ -88,8 +97,28 @@ public final class DumpTest {
         Due.due("counts of dump 1 alone", Desks.counts(desk), "4 1 1 1");
     }
 
+    private static void dumpsOfTheGreatestProgram() {
+        Desk desk = Desks.greatest();
+        desk.run(0, 0);
+        desk.dump(0);
+        desk.run(1, 0);
+        desk.run(2, 0);
+        desk.dump(1);
+        Due.due("merge(1)", desk.merge(1), true);
+        Due.due("edge counts of dump 1", desk.count(1) + " " + desk.count(2) + " " + desk.count(36), "99 99 2");
+        Due.due("done of dump 1", Desks.dones(desk), "200 0 0 0 0 0 0 0 0 0 0 0");
+        Due.due("paths of dump 1", desk.path(0) + " " + desk.path(23) + " " + desk.path(24), "0 99 99");
+        Due.due("cut of dump 1", desk.covered(7), 2);
+        Due.due("merge(0)", desk.merge(0), true);
+        Due.due("edge counts of both", desk.count(0) + " " + desk.count(33) + " " + desk.count(36), "1 88 3");
+        Due.due("done of both", Desks.dones(desk), "201 1 1 1 1 1 1 1 1 1 1 89");
+        Due.due("paths of both", desk.path(0) + " " + desk.path(24) + " " + desk.path(165), "1 99 87");
+        Due.due("cut of both", desk.covered(7), 3);
+    }
+
+    // Promise 17: "The counts of a dump are added to those that are; the dump stays."
     private static void mergeAdds() {
-        CoverDesk desk = Desks.counting();
+        Desk desk = Desks.counting();
         desk.run(0, 3);
         desk.run(0, 1000);
         desk.dump(0);
@@ -105,27 +134,43 @@ public final class DumpTest {
         }
     }
 
-    private static void mergeIsRefused() {
-        CoverDesk desk = Desks.counting();
-        desk.run(0, 3);
-        String before = Desks.shown(desk);
-        int[] wrong = {-1, 0, 1, 2, Integer.MIN_VALUE, Integer.MAX_VALUE};
-        for (int d : wrong) {
-            Due.due("merge(" + d + ")", desk.merge(d), false);
+    // Promise 17: "False .. if there is no such dump, it is empty"
+    private static void mergesAre0And1() {
+        Desk desk = Desks.counting();
+        for (int d : new int[] {-1, 0, 1, 2, MIN, MAX}) {
+            Due.due("merge(" + d + "), all empty", desk.merge(d), false);
         }
-        Due.due("what is built, after refused merges", Desks.shown(desk), before);
+        desk.dump(0);
+        Due.due("merge(1), 0 kept", desk.merge(1), false);
+        desk.dump(1);
+        for (int d : new int[] {-1, 0, 1, 2, MIN, MAX}) {
+            Due.due("merge(" + d + "), both kept", desk.merge(d), d == 0 || d == 1);
+        }
     }
 
+    // Promise 18: "a dump whose counts are all 0 is kept, too, and not empty"
     private static void emptyIsNotAllZero() {
-        CoverDesk desk = Desks.counting();
+        Desk desk = Desks.counting();
+        Due.due("merge(0), empty", desk.merge(0), false);
         Due.due("dump(0) of no counts", desk.dump(0), true);
         desk.run(0, 3);
         Due.due("merge(0) of no counts", desk.merge(0), true);
+        Due.due("merge(1), empty", desk.merge(1), false);
         Due.due("counts", Desks.counts(desk), "2 1 1 1");
     }
 
+    private static void dumpThatLostItsCounts() {
+        Desk desk = Desks.counting();
+        desk.run(0, 3);
+        desk.dump(0);
+        Due.due("dump(0) of no counts over others", desk.dump(0), true);
+        Due.due("merge(0)", desk.merge(0), true);
+        Due.due("counts, lost", Desks.counts(desk), "0 0 0 0");
+    }
+
+    // Promise 17: "build or weight did something since it was kept"
     private static void buildAndWeightEmptyDumps() {
-        CoverDesk desk = Desks.counting();
+        Desk desk = Desks.counting();
         desk.run(0, 3);
         desk.dump(0);
         desk.dump(1);
@@ -147,7 +192,7 @@ public final class DumpTest {
     }
 
     private static void refusedBuildAndWeightDoNot() {
-        CoverDesk desk = Desks.counting();
+        Desk desk = Desks.counting();
         desk.run(0, 3);
         desk.dump(0);
         desk.exits(0, 1, 9, 0, 0);
@@ -157,43 +202,69 @@ public final class DumpTest {
         Due.due("counts", Desks.counts(desk), "2 1 1 1");
     }
 
-    private static void clearAndBlocksDoNot() {
-        CoverDesk desk = Desks.counting();
+    private static void otherCallsDoNot() {
+        Desk desk = Desks.counting();
         desk.run(0, 3);
         desk.dump(0);
         desk.clear();
         desk.block(0, 0);
         desk.exits(0, 1, 0, 0, 0);
+        desk.dump(1);
         Due.due("merge(0)", desk.merge(0), true);
         Due.due("counts", Desks.counts(desk), "2 1 1 1");
+        desk.run(0, 3);
+        Due.due("merge(0) again", desk.merge(0), true);
+        Due.due("counts again", Desks.counts(desk), "6 3 3 3");
     }
 
-    private static void mergeUpToTheLimit() {
-        CoverDesk desk = Desks.counting();
+    // Promise 17: "or there would be more than 1000000 runs"
+    private static void mergeOfAMillionRuns() {
+        Desk desk = Desks.counting();
+        Millions.fill(desk, 1000000, 0, 3);
+        desk.dump(0);
+        Due.due("merge to 1000000 runs", desk.merge(0), true);
+        Due.due("counts", Desks.counts(desk), "2000000 1000000 1000000 1000000");
+        Due.due("merge to 2000000 runs", desk.merge(0), false);
+        desk.dump(1);
+        desk.run(0, 3);
+        Due.due("merge to 1000001 runs", desk.merge(0), false);
+        Due.due("counts of one", Desks.counts(desk), "2 1 1 1");
+    }
+
+    private static void mergeUpToAMillionRuns() {
+        Desk desk = Desks.counting();
         Millions.fill(desk, 500000, 0, 3);
         desk.dump(0);
         desk.merge(0);
         desk.run(0, 1);
-        String before = Desks.shown(desk);
         Due.due("merge to 1000001 runs", desk.merge(0), false);
-        Due.due("what is built, after a refused merge", Desks.shown(desk), before);
+        Due.due("counts of 500001", Desks.counts(desk), "1000000 500001 500001 500001");
         desk.dump(1);
         desk.merge(0);
         Due.due("merge to 1000000 runs", desk.merge(0), true);
         Due.due("counts", Desks.counts(desk), "2000000 1000000 1000000 1000000");
         Due.due("paths", Desks.pathCounts(desk), "2000000 1000000");
-        Due.due("merge of one more", desk.merge(1), false);
+        Due.due("merge of 500001 more", desk.merge(1), false);
         Due.due("run of one more", desk.run(0, 0), CoverDesk.NONE);
-        desk.dump(0);
+        desk.weight(0, 0);
+        desk.run(0, 3);
         desk.dump(1);
-        Due.due("merge of none", desk.merge(1), true);
-        Due.due("merge of all", desk.merge(0), true);
-        Due.due("merge of none to all", desk.merge(1), true);
+        Millions.fill(desk, 999999, 0, 3);
+        Due.due("merge of one to 1000000 runs", desk.merge(1), true);
+        Due.due("merge of one to 1000001 runs", desk.merge(1), false);
         Due.due("runs", desk.count(3), 1000000);
     }
 
+    private static void mergeOfNoRunsToAMillion() {
+        Desk desk = Desks.counting();
+        desk.dump(1);
+        Millions.fill(desk, 1000000, 0, 3);
+        Due.due("merge of none to 1000000", desk.merge(1), true);
+        Due.due("counts", Desks.counts(desk), "2000000 1000000 1000000 1000000");
+    }
+
     private static void limitCountsRunsThatAreCut() {
-        CoverDesk desk = Desks.counting();
+        Desk desk = Desks.counting();
         Millions.fill(desk, 500000, 0, 1000);
         desk.dump(0);
         desk.run(0, 1000);
@@ -210,7 +281,7 @@ public final class DumpTest {
     }
 
     private static void mergeIsNoRun() {
-        CoverDesk desk = Desks.counting();
+        Desk desk = Desks.counting();
         desk.run(0, 3);
         desk.dump(0);
         desk.run(5, 1);

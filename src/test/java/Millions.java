@@ -4,7 +4,7 @@ final class Millions {
     }
 
     /** Counts a number of runs of the same x and y, doubling by dump 0 from the number's highest bit on. */
-    static void fill(CoverDesk desk, int runs, int x, int y) {
+    static void fill(Desk desk, int runs, int x, int y) {
         desk.run(x, y);
         for (int bit = 31 - Integer.numberOfLeadingZeros(runs) - 1; bit >= 0; bit--) {
             desk.dump(0);

@@ -1,14 +1,12 @@
 /** Rows of calls, made from fixed seeds, on CoverDesk and on PlainDesk: their answers must be the same. */
 public final class ModelTest {
     private static final int SEEDS = 3000;
-    private static final int CALLS = 512;
     private static final int[] ODD_INTS = {0, 1, -1, 2, -2, 3, -3, 7, 11, 12, Integer.MAX_VALUE, Integer.MIN_VALUE};
 
-    private final CoverDesk desk = new CoverDesk();
+    private final Desk desk = new Desk();
     private final PlainDesk plain = new PlainDesk();
     private final int seed;
     private long state;
-    private int calls = 0;
 
     private ModelTest(int seed) {
         this.seed = seed;
@@ -28,7 +26,7 @@ public final class ModelTest {
             writeProgram();
         }
         // The longest piece, grow, and look at the end fit into what is left here.
-        while (calls < CALLS - 150) {
+        while (desk.calls() < Desk.CALLS - 150) {
             onePiece();
         }
         look();
@@ -158,11 +156,7 @@ public final class ModelTest {
     }
 
     private void same(String call, int got, int want) {
-        calls++;
-        if (calls > CALLS) {
-            throw new IllegalStateException("seed " + seed + " makes more calls than an object is used for");
-        }
-        Due.due("seed " + seed + ", call " + calls + ": " + call, got, want);
+        Due.due("seed " + seed + ", call " + desk.calls() + ": " + call, got, want);
     }
 
     private void same(String call, boolean got, boolean want) {

@@ -1,36 +1,57 @@
 /** Promises 6, 9 and 10: weights, edges with the tree and the back edges, and probes. */
 public final class TreeTest {
+    private static final int MIN = Integer.MIN_VALUE;
+    private static final int MAX = Integer.MAX_VALUE;
+
     public static void main(String[] args) {
+        edgesAreNumbered();
         treeByNumber();
         treeByWeight();
+        treeByTheLeastDifference();
         weightsOfAnySize();
         outEdgeIsAlwaysFirst();
+        treeInWhicheverDirection();
+        edgesWithOneEndAreOffTheTree();
         placesThatAreApart();
         weightForgetsCounts();
-        weightIsRefused();
+        weightOfEdgesThatAreThere();
         edgeAnswers();
-        edgeIsRefused();
+        edgesThatAreThere();
+        whatFrom0To5();
+        outEdge();
         backEdges();
         backEdgesFollowTheOrderOfExits();
+        backWhileOneHasNotGoneBack();
         edgesOfUnmetBlocksAreNotBack();
         probesByNumber();
+        probesThatAreThere();
         probesTellAllCounts();
         Due.finish();
     }
 
     /** A diamond: 0 to 1 (edge 0) or 2 (1), both to 3 (2 and 3), which ends (4); OUT is 5. */
-    private static CoverDesk diamond() {
+    private static Desk diamond() {
         return Desks.built(new int[] {0, 0, 3, 1, 2}, new int[] {0, 0, 1, 3}, new int[] {0, 0, 1, 3}, new int[] {0, 0, 0});
     }
 
+    // "numbered by blocks, then exits; the OUT edge comes last: it leads from outside into block 0"
+    private static void edgesAreNumbered() {
+        Desk desk = Desks.built(new int[] {0, 0, 5, 2, 1, 0}, new int[] {0, 0, 0}, new int[] {0, 0, 2, 2, 1});
+        Due.due("from", Desks.edges(desk, 0), "0 0 0 1 2 2 -1");
+        Due.due("exit", Desks.edges(desk, 1), "0 1 2 0 0 1 0");
+        Due.due("to", Desks.edges(desk, 2), "2 1 0 -1 2 1 0");
+    }
+
+    // "of the same weight by number"; "Each edge has a WEIGHT (0 at first)."
     private static void treeByNumber() {
-        CoverDesk desk = diamond();
+        Desk desk = diamond();
         Due.due("tree, weights equal", Desks.edges(desk, 3), "1 1 1 0 0 1");
         Due.due("weights at first", Desks.edges(desk, 5), "0 0 0 0 0 0");
     }
 
+    // "by falling weight"
     private static void treeByWeight() {
-        CoverDesk desk = diamond();
+        Desk desk = diamond();
         Due.due("weight(4, 1)", desk.weight(4, 1), true);
         Due.due("tree, 4 heavy", Desks.edges(desk, 3), "1 1 0 0 1 1");
         desk.weight(3, 2);
@@ -45,29 +66,67 @@ public final class TreeTest {
         Due.due("weights", Desks.edges(desk, 5), "0 0 0 0 -1 0");
     }
 
+    // Of two edges between the same places the first one is in the tree, unless the second is heavier.
+    private static void treeByTheLeastDifference() {
+        int[][] weights = {{0, 0}, {0, 1}, {1, 0}, {-1, -1}, {-1, 0}, {MAX, MAX}, {MAX - 1, MAX}, {MAX, MAX - 1},
+            {MIN, MIN}, {MIN, MIN + 1}, {MIN + 1, MIN}, {MIN, MAX}, {MAX, MIN}};
+        for (int[] pair : weights) {
+            Desk desk = Desks.built(new int[] {0, 0, 2, 1, 1}, new int[] {0, 0, 0});
+            desk.weight(2, MIN);
+            desk.weight(0, pair[0]);
+            desk.weight(1, pair[1]);
+            String due = pair[1] > pair[0] ? "0 1 0 1" : "1 0 0 1";
+            Due.due("tree of weights " + pair[0] + ", " + pair[1], Desks.edges(desk, 3), due);
+        }
+    }
+
+    // Promise 6: "(any int)"
     private static void weightsOfAnySize() {
-        CoverDesk desk = diamond();
-        desk.weight(0, Integer.MIN_VALUE);
-        desk.weight(1, Integer.MAX_VALUE);
-        desk.weight(4, Integer.MAX_VALUE);
+        Desk desk = diamond();
+        desk.weight(0, MIN);
+        desk.weight(1, MAX);
+        desk.weight(4, MAX);
         Due.due("tree, least and greatest weights", Desks.edges(desk, 3), "0 1 1 0 1 1");
-        Due.due("least weight", desk.edge(0, 5), Integer.MIN_VALUE);
-        Due.due("greatest weight", desk.edge(1, 5), Integer.MAX_VALUE);
-        desk.weight(2, Integer.MIN_VALUE);
+        Due.due("least weight", desk.edge(0, 5), MIN);
+        Due.due("greatest weight", desk.edge(1, 5), MAX);
+        desk.weight(2, MIN);
         Due.due("tree, two of the least weight", Desks.edges(desk, 3), "1 1 0 0 1 1");
     }
 
+    // "the OUT edge first, then the others"
     private static void outEdgeIsAlwaysFirst() {
-        CoverDesk desk = Desks.built(new int[] {0, 0, 0});
-        desk.weight(0, 5);
-        Due.due("weight of OUT", desk.weight(1, -5), true);
-        Due.due("tree, OUT light", Desks.edges(desk, 3), "0 1");
-        Due.due("weight of OUT, read", desk.edge(1, 5), -5);
+        Desk desk = Desks.built(new int[] {0, 0, 0});
+        Due.due("tree, weights equal", Desks.edges(desk, 3), "0 1");
+        desk.weight(0, MAX);
+        Due.due("tree, END heavy", Desks.edges(desk, 3), "0 1");
+        Due.due("weight of OUT", desk.weight(1, MIN), true);
+        Due.due("tree, END heavy and OUT light", Desks.edges(desk, 3), "0 1");
+        Due.due("weight of OUT, read", desk.edge(1, 5), MIN);
+        desk.weight(1, MAX);
+        Due.due("tree, OUT as heavy", Desks.edges(desk, 3), "0 1");
+    }
+
+    // "if its two ends (in whichever direction) are not yet joined"
+    private static void treeInWhicheverDirection() {
+        // 0 to 1, 1 to 0; and 2 to 1 and to 0, where nothing leads to 2.
+        Desk desk = Desks.built(new int[] {0, 0, 1, 1}, new int[] {0, 0, 1, 0}, new int[] {0, 0, 2, 1, 0});
+        Due.due("tree, one way", Desks.edges(desk, 3), "1 0 1 0 1");
+        desk.weight(1, 1);
+        Due.due("tree, the other way", Desks.edges(desk, 3), "0 1 1 0 1");
+        desk.weight(3, 2);
+        Due.due("tree, from what is not led to", Desks.edges(desk, 3), "0 1 0 1 1");
+    }
+
+    private static void edgesWithOneEndAreOffTheTree() {
+        Desk desk = Desks.built(new int[] {0, 0, 5, 0, 0, 1}, new int[] {0, 0, 0});
+        desk.weight(0, MAX);
+        desk.weight(1, 1);
+        Due.due("tree without loops", Desks.edges(desk, 3), "0 0 1 0 1");
     }
 
     private static void placesThatAreApart() {
         // Block 0 ends; 1 and 2 go to each other and can't be reached; 3 goes to itself.
-        CoverDesk desk = Desks.built(new int[] {0, 0, 0}, new int[] {0, 0, 1, 2}, new int[] {0, 0, 1, 1}, new int[] {0, 0, 1, 3});
+        Desk desk = Desks.built(new int[] {0, 0, 0}, new int[] {0, 0, 1, 2}, new int[] {0, 0, 1, 1}, new int[] {0, 0, 1, 3});
         Due.due("tree of places apart", Desks.edges(desk, 3), "0 1 0 0 1");
         Due.due("probes of places apart", Desks.probes(desk), "0 2 3");
         desk.weight(2, 1);
@@ -75,54 +134,89 @@ public final class TreeTest {
         Due.due("tree of places apart, 2 and 3 heavy", Desks.edges(desk, 3), "0 0 1 0 1");
     }
 
+    // Promise 6: "all counts are 0 then"
     private static void weightForgetsCounts() {
-        CoverDesk desk = Desks.counting();
+        Desk desk = Desks.counting();
         desk.run(0, 3);
         desk.run(0, 1000);
         Due.due("cut before weight", desk.covered(7), 1);
         Due.due("weight with what it was", desk.weight(0, 0), true);
         Due.due("counts after weight", Desks.counts(desk), "0 0 0 0");
         Due.due("paths after weight", Desks.pathCounts(desk), "0 0");
-        Due.due("done after weight", desk.done(0), 0);
+        Due.due("done after weight", Desks.dones(desk), "0 0");
         Due.due("cut after weight", desk.covered(7), 0);
         Due.due("last is from the latest run since build", desk.last(2), 100);
     }
 
-    private static void weightIsRefused() {
-        CoverDesk desk = Desks.counting();
-        desk.run(0, 3);
-        String before = Desks.shown(desk);
-        int[] wrong = {-1, 4, 36, Integer.MIN_VALUE, Integer.MAX_VALUE};
-        for (int edge : wrong) {
-            Due.due("weight(" + edge + ", 1)", desk.weight(edge, 1), false);
+    // Promise 6: "false .. if there is no such edge"
+    private static void weightOfEdgesThatAreThere() {
+        Desk desk = diamond();
+        for (int edge = 0; edge < 6; edge++) {
+            Due.due("weight(" + edge + ", 9) of 6", desk.weight(edge, 9), true);
+            Due.due("weight of edge " + edge, desk.edge(edge, 5), 9);
         }
-        Due.due("what is built, after refused weights", Desks.shown(desk), before);
+        for (int edge : new int[] {-1, 6, 36, 37, MIN, MAX}) {
+            Due.due("weight(" + edge + ", 9) of 6", desk.weight(edge, 9), false);
+        }
+        Desk greatest = Desks.greatest();
+        Due.due("weight(36, 9) of 37", greatest.weight(36, 9), true);
+        Due.due("weight(37, 9) of 37", greatest.weight(37, 9), false);
     }
 
+    // Promise 9
     private static void edgeAnswers() {
-        CoverDesk desk = diamond();
+        Desk desk = diamond();
         Due.due("from", Desks.edges(desk, 0), "0 0 1 2 3 -1");
         Due.due("exit", Desks.edges(desk, 1), "0 1 0 0 0 0");
         Due.due("to", Desks.edges(desk, 2), "1 2 3 3 -1 0");
         Due.due("back", Desks.edges(desk, 4), "0 0 0 0 0 0");
     }
 
-    private static void edgeIsRefused() {
-        CoverDesk desk = diamond();
-        int[] wrong = {-1, 6, Integer.MIN_VALUE, Integer.MAX_VALUE};
-        for (int edge : wrong) {
-            for (int what = 0; what <= 5; what++) {
+    // Promise 9: "NONE if there is none"
+    private static void edgesThatAreThere() {
+        Desk desk = diamond();
+        for (int what = 0; what <= 5; what++) {
+            for (int edge : new int[] {-1, 6, 36, 37, MIN, MAX}) {
                 Due.due("edge(" + edge + ", " + what + ")", desk.edge(edge, what), CoverDesk.NONE);
             }
         }
-        for (int what : wrong) {
-            Due.due("edge(0, " + what + ")", desk.edge(0, what), CoverDesk.NONE);
+        Due.due("edge(0, 2)", desk.edge(0, 2), 1);
+        Due.due("edge(5, 2)", desk.edge(5, 2), 0);
+        Desk greatest = Desks.greatest();
+        Due.due("edge(36, 2) of 37", greatest.edge(36, 2), 0);
+        Due.due("edge(37, 2) of 37", greatest.edge(37, 2), CoverDesk.NONE);
+    }
+
+    // Promise 9: "or for others"
+    private static void whatFrom0To5() {
+        Desk desk = Desks.counting();
+        desk.weight(0, 8);
+        int[] due = {0, 0, 0, 0, 1, 8};
+        for (int what = 0; what <= 5; what++) {
+            Due.due("edge(0, " + what + ")", desk.edge(0, what), due[what]);
+        }
+        for (int what : new int[] {-1, 6, MIN, MAX}) {
+            for (int edge = 0; edge < 4; edge++) {
+                Due.due("edge(" + edge + ", " + what + ")", desk.edge(edge, what), CoverDesk.NONE);
+            }
         }
     }
 
+    // Promise 9: "-1 outside"; promise 18: "of the OUT edge what 1 is 0"
+    private static void outEdge() {
+        Desk desk = Desks.built(new int[] {0, 0, 2, 1, 0}, new int[] {0, 0, 0});
+        int[] due = {-1, 0, 0, 1, 0, 0};
+        for (int what = 0; what <= 5; what++) {
+            Due.due("OUT's edge(3, " + what + ")", desk.edge(3, what), due[what]);
+        }
+        Due.due("from where END leads", desk.edge(2, 0), 1);
+        Due.due("to where END leads", desk.edge(2, 2), -1);
+    }
+
+    // "an edge is BACK if its target is a block into which one has gone and from which one has not gone back"
     private static void backEdges() {
         // 0 to 1; 1 to 1 (back) or 2; 2 to 0 (back), 1 (back) or 3; 3 to 4; 4 ends.
-        CoverDesk desk = Desks.built(new int[] {0, 0, 1, 1}, new int[] {0, 0, 2, 1, 2}, new int[] {0, 0, 5, 0, 1, 3},
+        Desk desk = Desks.built(new int[] {0, 0, 1, 1}, new int[] {0, 0, 2, 1, 2}, new int[] {0, 0, 5, 0, 1, 3},
                 new int[] {0, 0, 1, 4}, new int[] {0, 0, 0});
         Due.due("back", Desks.edges(desk, 4), "0 1 0 1 1 0 0 0 0");
     }
@@ -130,36 +224,80 @@ public final class TreeTest {
     private static void backEdgesFollowTheOrderOfExits() {
         // 1 and 2 go to each other: which of these edges is back depends on where 0 goes first.
         int[][] rest = {{0, 0, 2, 2, 3}, {0, 0, 2, 1, 3}, {0, 0, 0}};
-        CoverDesk oneFirst = Desks.built(new int[] {0, 0, 2, 1, 2}, rest[0], rest[1], rest[2]);
+        Desk oneFirst = Desks.built(new int[] {0, 0, 2, 1, 2}, rest[0], rest[1], rest[2]);
         Due.due("back, 1 first", Desks.edges(oneFirst, 4), "0 0 0 0 1 0 0 0");
-        CoverDesk twoFirst = Desks.built(new int[] {0, 0, 2, 2, 1}, rest[0], rest[1], rest[2]);
+        Desk twoFirst = Desks.built(new int[] {0, 0, 2, 2, 1}, rest[0], rest[1], rest[2]);
         Due.due("back, 2 first", Desks.edges(twoFirst, 4), "0 0 1 0 0 0 0 0");
-        // 0 to 2 or 1; 2 ends; 1 to 2: one has gone back from 2 by then.
-        CoverDesk across = Desks.built(new int[] {0, 0, 2, 2, 1}, new int[] {0, 0, 1, 2}, new int[] {0, 0, 0});
-        Due.due("not back, since one has gone back", Desks.edges(across, 4), "0 0 0 0 0");
     }
 
+    // "and back when its exits are through"
+    private static void backWhileOneHasNotGoneBack() {
+        // 0 to 2 or 1; 2 ends; 1 to 2: one has gone back from 2 by then.
+        Desk across = Desks.built(new int[] {0, 0, 2, 2, 1}, new int[] {0, 0, 1, 2}, new int[] {0, 0, 0});
+        Due.due("not back, since one has gone back", Desks.edges(across, 4), "0 0 0 0 0");
+        // As before, but 2 goes to 1, and 1 from within 2 to 2.
+        Desk within = Desks.built(new int[] {0, 0, 2, 2, 1}, new int[] {0, 0, 1, 2}, new int[] {0, 0, 1, 1});
+        Due.due("back, since one has not gone back", Desks.edges(within, 4), "0 0 1 0 0");
+        // The last exit of 0 leads to 0: one has not gone back from 0 before it is through.
+        Desk last = Desks.built(new int[] {0, 0, 5, 1, 1, 0}, new int[] {0, 0, 0});
+        Due.due("back by the last exit", Desks.edges(last, 4), "0 0 1 0 0");
+        // The longest way in: each of 12 blocks to the next one, and the last one to the first.
+        Desk ring = Desks.withBlocks(12);
+        for (int i = 0; i < 12; i++) {
+            ring.exits(i, 2, (i + 1) % 12, i, 0);
+        }
+        ring.build();
+        Due.due("back in a ring of 12", Desks.edges(ring, 4), "0 1 0 1 0 1 0 1 0 1 0 1 0 1 0 1 0 1 0 1 0 1 1 1 0");
+    }
+
+    // "(Edges of blocks that are not met are none.)"
     private static void edgesOfUnmetBlocksAreNotBack() {
-        CoverDesk desk = Desks.built(new int[] {0, 0, 0}, new int[] {0, 0, 1, 1}, new int[] {0, 0, 2, 1, 0});
+        Desk desk = Desks.built(new int[] {0, 0, 0}, new int[] {0, 0, 1, 1}, new int[] {0, 0, 2, 1, 0});
         Due.due("back of blocks that are not met", Desks.edges(desk, 4), "0 0 0 0 0");
         Due.due("paths without blocks that are not met", desk.covered(4), 1);
+        desk.exits(0, 1, 2, 0, 0);
+        desk.build();
+        Due.due("back of the same blocks, met", Desks.edges(desk, 4), "0 1 0 1 0");
+        Due.due("paths with blocks that are met", desk.covered(4), 3);
+        desk.exits(0, 0, 0, 0, 0);
+        desk.build();
+        Due.due("back of the same blocks, not met again", Desks.edges(desk, 4), "0 0 0 0 0");
     }
 
+    // Promise 10: "by number"; "All other edges have PROBES."
     private static void probesByNumber() {
-        CoverDesk desk = diamond();
+        Desk desk = diamond();
         Due.due("probes", Desks.probes(desk), "3 4");
         Due.due("covered(6)", desk.covered(6), 2);
         desk.weight(4, 1);
         Due.due("probes, 4 heavy", Desks.probes(desk), "2 3");
-        int[] wrong = {-1, 2, 3, Integer.MIN_VALUE, Integer.MAX_VALUE};
-        for (int k : wrong) {
-            Due.due("probe(" + k + ")", desk.probe(k), CoverDesk.NONE);
+    }
+
+    // Promise 10: "The k-th (0 first) ..; NONE if there is none"
+    private static void probesThatAreThere() {
+        Desk desk = diamond();
+        Due.due("probe(0)", desk.probe(0), 3);
+        Due.due("probe(1)", desk.probe(1), 4);
+        for (int k : new int[] {-1, 2, 3, MIN, MAX}) {
+            Due.due("probe(" + k + ") of 2", desk.probe(k), CoverDesk.NONE);
         }
+        // The fewest probes that a program has, and the most: 12 blocks apart, each three times to itself.
+        Desk fewest = Desks.withBlocks(1);
+        fewest.build();
+        Due.due("fewest probes", Desks.probes(fewest), "0");
+        Desk most = Desks.withBlocks(12);
+        for (int i = 0; i < 12; i++) {
+            most.exits(i, 5, i, i, i);
+        }
+        most.build();
+        Due.due("most probes", most.covered(6), 36);
+        Due.due("probe(35) of 36", most.probe(35), 35);
+        Due.due("probe(36) of 36", most.probe(36), CoverDesk.NONE);
     }
 
     /** Why there are probes: what goes into a block leaves it, so those off a tree tell the others. */
     private static void probesTellAllCounts() {
-        CoverDesk desk = Desks.built(new int[] {1, 1, 2, 0, 1}, new int[] {0, 0, 5, 2, 3, 4}, new int[] {2, -2, 1, 5},
+        Desk desk = Desks.built(new int[] {1, 1, 2, 0, 1}, new int[] {0, 0, 5, 2, 3, 4}, new int[] {2, -2, 1, 5},
                 new int[] {3, 0, 4, 5, 0}, new int[] {5, 7, 3, 5, 1}, new int[] {0, 0, 0});
         for (int x = -6; x <= 6; x++) {
             Due.due("run to 4", desk.run(x, 4), CoverDesk.OK);
