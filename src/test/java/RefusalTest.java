@@ -38,6 +38,7 @@ public final class RefusalTest {
         weightOfNoEdge();
         runOfNothing();
         runBehindTheLast();
+        lastOfOthers();
         edgeThatIsNone();
         probeThatIsNone();
         countOfNoEdge();
@@ -105,7 +106,7 @@ public final class RefusalTest {
     /** Three blocks that are not built. */
     private static Desk draft() {
         Desk desk = new Desk();
-        Desks.write(desk, new int[] {1, 2, 5, 0, 1, 2}, new int[] {2, -1, 2, 0, 2}, new int[] {6, 0, 0});
+        Desks.write(desk, new int[] {1, 2, 5, 0, 1, 2}, new int[] {2, -1, 2, 0, 1}, new int[] {6, 0, 0});
         return desk;
     }
 
@@ -123,11 +124,13 @@ public final class RefusalTest {
         return desk;
     }
 
-    /** As used, with 12 blocks. */
+    /** As used, with 12 other blocks in a row, each of which leaves its trace in X. */
     private static Desk full() {
         Desk desk = used();
-        for (int block = 3; block < 12; block++) {
-            Due.due("block " + block, desk.block(1, block), block);
+        desk.clear();
+        for (int block = 0; block < 12; block++) {
+            Due.due("block " + block, desk.block(1, 1 << block), block);
+            desk.exits(block, block == 11 ? 0 : 1, block + 1, 0, 0);
         }
         return desk;
     }
@@ -202,10 +205,10 @@ public final class RefusalTest {
         refuse("exits(0, ..) without blocks", Desk::new, desk -> told(desk.exits(0, 1, 0, 0, 0)), FALSE);
         refuse("exits(0, ..) after clear", RefusalTest::cleared, desk -> told(desk.exits(0, 1, 0, 0, 0)), FALSE);
         for (int block : new int[] {-1, 3, 11, 12, MIN, MAX}) {
-            refuse("exits(" + block + ", ..) of 3", RefusalTest::draft, desk -> told(desk.exits(block, 1, 0, 0, 0)), FALSE);
+            refuse("exits(" + block + ", ..) of 3", RefusalTest::draft, desk -> told(desk.exits(block, 1, 1, 2, 0)), FALSE);
         }
         for (int block : new int[] {-1, 12, MIN, MAX}) {
-            refuse("exits(" + block + ", ..) of 12", RefusalTest::full, desk -> told(desk.exits(block, 1, 0, 0, 0)), FALSE);
+            refuse("exits(" + block + ", ..) of 12", RefusalTest::full, desk -> told(desk.exits(block, 1, 1, 2, 0)), FALSE);
         }
     }
 
@@ -213,7 +216,7 @@ public final class RefusalTest {
         for (int kind : new int[] {-1, 6, MIN, MAX}) {
             for (int block = 0; block < 3; block++) {
                 int each = block;
-                refuse("exits(" + block + ", " + kind + ", ..)", RefusalTest::draft, desk -> told(desk.exits(each, kind, 2, 2, 2)), FALSE);
+                refuse("exits(" + block + ", " + kind + ", ..)", RefusalTest::draft, desk -> told(desk.exits(each, kind, 1, 2, 0)), FALSE);
             }
         }
     }
@@ -228,15 +231,15 @@ public final class RefusalTest {
         }
     }
 
-    /** The wrong target stands in each place that the kind uses, and the others would be right. */
+    /** The wrong target stands in each place that the kind uses; the others would be right, and new there. */
     private static void refuseTarget(int block, int kind, int target) {
         String call = "exits(" + block + ", " + kind + ", ..) with " + target;
-        refuse(call + " first", RefusalTest::draft, desk -> told(desk.exits(block, kind, target, 2, 2)), FALSE);
+        refuse(call + " first", RefusalTest::draft, desk -> told(desk.exits(block, kind, target, 2, 0)), FALSE);
         if (kind >= 2) {
-            refuse(call + " second", RefusalTest::draft, desk -> told(desk.exits(block, kind, 2, target, 2)), FALSE);
+            refuse(call + " second", RefusalTest::draft, desk -> told(desk.exits(block, kind, 1, target, 0)), FALSE);
         }
         if (kind == 5) {
-            refuse(call + " third", RefusalTest::draft, desk -> told(desk.exits(block, kind, 2, 2, target)), FALSE);
+            refuse(call + " third", RefusalTest::draft, desk -> told(desk.exits(block, kind, 1, 2, target)), FALSE);
         }
     }
 
@@ -297,7 +300,14 @@ public final class RefusalTest {
         refuse("run(0, 600), 1000000 are counted", RefusalTest::million, desk -> desk.run(0, 600), NONE);
     }
 
-    // Promises 9 to 15
+    // Promises 8 to 15
+
+    /** Answered by 0, not refused, but as much without a change. */
+    private static void lastOfOthers() {
+        for (int which : new int[] {-1, 3, MIN, MAX}) {
+            refuse("last(" + which + ")", RefusalTest::used, desk -> desk.last(which), 0);
+        }
+    }
 
     private static void edgeThatIsNone() {
         refuse("edge(0, 0) of nothing", Desk::new, desk -> desk.edge(0, 0), NONE);

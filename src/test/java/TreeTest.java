@@ -11,6 +11,7 @@ public final class TreeTest {
         weightsOfAnySize();
         outEdgeIsAlwaysFirst();
         treeInWhicheverDirection();
+        outsideIsAPlace();
         edgesWithOneEndAreOffTheTree();
         placesThatAreApart();
         weightForgetsCounts();
@@ -115,6 +116,17 @@ public final class TreeTest {
         Due.due("tree, the other way", Desks.edges(desk, 3), "0 1 1 0 1");
         desk.weight(3, 2);
         Due.due("tree, from what is not led to", Desks.edges(desk, 3), "0 1 0 1 1");
+    }
+
+    // "Outside is a PLACE like a block."
+    private static void outsideIsAPlace() {
+        // 0 to 1 or 2, which both END: two ways from 0 to outside, beside the OUT edge.
+        Desk desk = Desks.built(new int[] {0, 0, 3, 1, 2}, new int[] {0, 0, 0}, new int[] {0, 0, 0});
+        Due.due("tree, weights equal", Desks.edges(desk, 3), "1 1 0 0 1");
+        desk.weight(2, 1);
+        Due.due("tree, by outside to 1", Desks.edges(desk, 3), "0 1 1 0 1");
+        desk.weight(3, 1);
+        Due.due("tree, by outside to 1 and 2", Desks.edges(desk, 3), "0 0 1 1 1");
     }
 
     private static void edgesWithOneEndAreOffTheTree() {
